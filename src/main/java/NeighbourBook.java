@@ -37,7 +37,7 @@ public final class NeighbourBook {
     private static final int SAME = 3;
     private static final int DENSE = 4;
     /** More bits than any TELLING has, so that what cannot be told is never the cheapest. */
-    private static final int CANNOT_TELL = Integer.MAX_VALUE;
+    private static final int CANNOT_TELL = 1000000;
 
     private static final int WINDOW = 0;
     private static final int CHAIN = 1;
@@ -784,8 +784,11 @@ public final class NeighbourBook {
 
     /** THE BOOK: the PAIRS as they were packed, how each ROW is told, and the bits. */
     private static final class Book {
-        /** By any FORMS a ROW has fewer bits than that as PLAIN, and the cheapest TELLING has no more. */
-        private static final int MOST_BYTES_OF_ROW = 80;
+        /**
+         * The cheapest TELLING has no more bits than PLAIN, and that has by any FORMS at most 480:
+         * KIND 7, COUNT 49, FIRST 95, and 47 GAPS of 7.
+         */
+        private static final int MOST_BYTES_OF_ROW = 64;
         /** FIRST and BEGIN have the greatest numbers: 47 FOLDED is 94. */
         private static final int NUMBERS_OF_USE = 96;
 
