@@ -332,8 +332,8 @@ public final class NeighbourBook {
 
     /** The first THING of a row that is b or more. */
     private static int firstFrom(long row, int b) {
-        for (int i = b; i < MOST_THINGS; i++) {
-            if (isIn(row, i)) {
+        for (int i = Math.max(0, b); i < MOST_THINGS; i++) {
+            if (((row >>> i) & 1L) != 0L) {
                 return i;
             }
         }
@@ -342,7 +342,7 @@ public final class NeighbourBook {
 
     private static int lastOf(long row) {
         for (int i = MOST_THINGS - 1; i >= 0; i--) {
-            if (isIn(row, i)) {
+            if (((row >>> i) & 1L) != 0L) {
                 return i;
             }
         }

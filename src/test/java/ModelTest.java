@@ -3,7 +3,8 @@ import java.util.Random;
 /** Long runs of calls, made by a fixed seed, on the program and on the plain model beside it. */
 public final class ModelTest {
     private static final int RUNS = 600;
-    private static final int CALLS = 512;
+    /** A little below the 512 that the document promises, as the last step may make several calls. */
+    private static final int CALLS = 500;
     private static final int[] EDGES = {
         Integer.MIN_VALUE, -1000, -48, -5, -4, -3, -2, -1, 0, 1, 2, 3, 4, 5, 6, 7, 8, 9, 10, 40, 46, 47, 48, 49,
         63, 64, 65, 99, 128, 255, 256, 99999, 100000, 100001, Integer.MAX_VALUE - 1, Integer.MAX_VALUE};

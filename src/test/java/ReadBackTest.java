@@ -5,7 +5,8 @@ import java.util.TreeSet;
 
 /** Reads the rows back from nothing but the bits and the forms: what is written can be read. */
 public final class ReadBackTest {
-    private static final int RUNS = 200;
+    private static final int RUNS = 1500;
+    private static final int MOST_CALLS = 512;
 
     private final NeighbourBook x;
     private final int n;
@@ -23,15 +24,16 @@ public final class ReadBackTest {
         Checks checks = new Checks();
         int[] kinds = new int[5];
         for (int run = 0; run < RUNS; run++) {
-            play(checks, kinds, run);
+            play(checks, kinds, run, false);
+            play(checks, kinds, run, true);
         }
         for (int kind = 0; kind < 5; kind++) {
-            checks.due("rows of KIND " + kind + " were read", kinds[kind] > 0 ? 1 : 0, 1);
+            checks.due("at least 100 rows of KIND " + kind + " were read", Math.min(100, kinds[kind]), 100);
         }
         checks.end();
     }
 
-    private static void play(Checks checks, int[] kinds, int run) {
+    private static void play(Checks checks, int[] kinds, int run, boolean bestForms) {
         Random random = new Random(run);
         int n = 1 + random.nextInt(48);
         NeighbourBook x = new NeighbourBook(n);
@@ -42,47 +44,65 @@ public final class ReadBackTest {
         }
         x.setting(0, random.nextInt(8));
         x.setting(1, random.nextInt(6));
-        join(x, n, random);
+        List<TreeSet<Integer>> wanted = rowsFor(n, random);
+        int calls = 8 + 2 + join(x, wanted);
         int size = x.pack();
-        new ReadBackTest(x, n, form).check(checks, kinds, "run " + run, size);
-        int less = x.forms();
-        checks.due("run " + run + ": forms() is not above pack()", less <= size ? 1 : 0, 1);
-        for (int use = 0; use < 8; use++) {
-            form[use] = x.form(use, 0);
+        if (bestForms) {
+            int less = x.forms();
+            checks.due("run " + run + ": forms() is not above pack()", Math.max(less, size), size);
+            size = less;
+            for (int use = 0; use < 8; use++) {
+                form[use] = x.form(use, 0);
+            }
         }
-        new ReadBackTest(x, n, form).check(checks, kinds, "run " + run + " in the best forms", less);
+        // Beyond these calls the document promises nothing, so a longer book is not read.
+        if (calls + 1 + 9 + n + size <= MOST_CALLS) {
+            new ReadBackTest(x, n, form).check(checks, kinds, "run " + run, wanted, size);
+        }
     }
 
-    private static void join(NeighbourBook x, int n, Random random) {
+    private static List<TreeSet<Integer>> rowsFor(int n, Random random) {
+        List<TreeSet<Integer>> rows = new ArrayList<>();
         int shape = random.nextInt(4);
         for (int a = 0; a < n; a++) {
             boolean alike = a > 0 && random.nextInt(3) > 0;
-            int y = a - 1 - (a > 0 ? random.nextInt(Math.min(a, 3)) : 0);
+            int y = alike ? a - 1 - random.nextInt(Math.min(a, 3)) : 0;
+            TreeSet<Integer> row = new TreeSet<>();
             boolean in = false;
             for (int b = 0; b < n; b++) {
                 if (alike) {
-                    in = x.has(y, b) == 1 != (random.nextInt(16) == 0 && shape > 0);
+                    in = rows.get(y).contains(b) != (random.nextInt(16) == 0 && shape > 0);
                 } else {
-                    in = random.nextInt(8) < (shape == 1 ? 4 : shape == 2 ? 1 : in ? 7 : 1);
+                    in = random.nextInt(16) < (shape == 1 ? 8 : shape == 2 ? 1 : in ? 13 : 1);
                 }
                 if (in) {
-                    x.pair(a, b);
+                    row.add(b);
                 }
             }
+            rows.add(row);
         }
+        return rows;
     }
 
-    private void check(Checks checks, int[] kinds, String where, int size) {
+    private static int join(NeighbourBook x, List<TreeSet<Integer>> rows) {
+        int calls = 0;
+        for (int a = 0; a < rows.size(); a++) {
+            for (int b : rows.get(a)) {
+                x.pair(a, b);
+                calls++;
+            }
+        }
+        return calls;
+    }
+
+    private void check(Checks checks, int[] kinds, String where, List<TreeSet<Integer>> wanted, int size) {
         for (int a = 0; a < n; a++) {
             checks.due(where + ": first bit of " + a, x.told(a, 3), at);
             int kind = number(0);
-            kinds[kind]++;
-            checks.due(where + ": KIND of " + a, x.told(a, 0), kind);
+            checks.due(where + ": a KIND of " + a, Math.min(4, kind), kind);
+            kinds[Math.min(4, kind)]++;
             rows.add(readRow(a, kind));
-            checks.due(where + ": bits of " + a, x.told(a, 4), at - x.told(a, 3));
-            for (int b = 0; b < n; b++) {
-                checks.due(where + ": " + a + " to " + b, x.has(a, b), rows.get(a).contains(b) ? 1 : 0);
-            }
+            checks.due(where + ": the row of " + a, rows.get(a).equals(wanted.get(a)) ? 1 : 0, 1);
         }
         checks.due(where + ": all bits", at, size);
     }
