@@ -45,7 +45,11 @@ public final class ReadBackTest {
         x.setting(0, random.nextInt(8));
         x.setting(1, random.nextInt(6));
         List<TreeSet<Integer>> wanted = rowsFor(n, random);
-        int calls = 8 + 2 + join(x, wanted);
+        int calls = 8 + 2 + join(x, wanted) + 1;
+        // Beyond these calls the document promises nothing, so such a book is not packed, nor a long one read.
+        if (calls + 9 > MOST_CALLS) {
+            return;
+        }
         int size = x.pack();
         if (bestForms) {
             int less = x.forms();
@@ -55,8 +59,7 @@ public final class ReadBackTest {
                 form[use] = x.form(use, 0);
             }
         }
-        // Beyond these calls the document promises nothing, so a longer book is not read.
-        if (calls + 1 + 9 + n + size <= MOST_CALLS) {
+        if (calls + 9 + n + size <= MOST_CALLS) {
             new ReadBackTest(x, n, form).check(checks, kinds, "run " + run, wanted, size);
         }
     }
