@@ -554,12 +554,11 @@ public final class NeighbourBook {
                 case SAME:
                     add(USE_BACK, k - 1);
                     return row == pairs.rowOf(x - k);
-                default:
-                    if (row == 0L) {
-                        return false;
-                    }
+                case DENSE:
                     tellDense(x, row);
-                    return true;
+                    return row != 0L;
+                default:
+                    return false;
             }
         }
 

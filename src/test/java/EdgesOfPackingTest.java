@@ -401,6 +401,10 @@ public final class EdgesOfPackingTest extends Edges {
         x.drop(0, 0);
         x.form(COUNT, 9);
         due("would(1, 0)", x.would(COUNT, 0), 2 + 1 + 1);
+        x.form(COUNT, 1);
+        x.pack();
+        due("would(1, 0), packed anew: none of those ahead", x.would(COUNT, 0), 1 + 1 + 1);
+        due("would(2, 0)", x.would(FIRST, 0), 0);
     }
 
     @Says("Promise 16: BAD")
@@ -465,6 +469,33 @@ public final class EdgesOfPackingTest extends Edges {
         NeighbourBook y = packed(of(48, span(0, 47), row(), row(), row(), row(), row(), row(0)));
         y.forms();
         due("LENGTH 45: 9 by 6, 7 by 7, 8 and 9", y.form(LENGTH, 1), 7);
+    }
+
+    /** Rows of one THING each, PLAIN, with these numbers as FIRST: the FORM that is chosen for them. */
+    private static int formOfFirst(int... numbers) {
+        NeighbourBook x = new NeighbourBook(48);
+        x.setting(0, 0);
+        for (int i = 0; i < numbers.length; i++) {
+            // 94 goes from 0 to 47, all others from about the middle.
+            int a = numbers[i] == 94 ? 0 : 16 + i;
+            int v = numbers[i] % 2 == 0 ? numbers[i] / 2 : -(numbers[i] + 1) / 2;
+            x.pair(a, a + v);
+        }
+        x.pack();
+        x.forms();
+        return x.form(FIRST, 1);
+    }
+
+    @Says("Promise 17: Each USE gets the FORM in which its numbers in THE BOOK have fewest bits [each FORM that can be the one]")
+    void formsOfEachKind() {
+        due("0 0 1", formOfFirst(0, 0, 1), 0);
+        due("0 0 0 0 20: 13 by DOUBLED and TWICE, 20 by STEPPED", formOfFirst(0, 0, 0, 0, 20), 1);
+        due("0 94: 12 by TWICE, 14 by DOUBLED and k = 5", formOfFirst(0, 94), 2);
+        due("2 3: 6 by k = 1 and 2, 7 by UNARY", formOfFirst(2, 3), 4);
+        due("6 7: 8 by k = 2 and 3, 10 by k = 1", formOfFirst(6, 7), 5);
+        due("12 14: 10 by k = 3 and 4, 12 by k = 2", formOfFirst(12, 14), 6);
+        due("28 30: 12 by k = 4 and 5, 14 by k = 3", formOfFirst(28, 30), 7);
+        due("60 62: 14 by k = 5 and 6, 16 by k = 4", formOfFirst(60, 62), 8);
     }
 
     @Says("Promise 17: Each USE gets the FORM [one without numbers: all have 0 bits, the lesser one]")
@@ -595,6 +626,28 @@ public final class EdgesOfPackingTest extends Edges {
             x.setting(1, r);
             due("r " + r, x.best(), dues[r]);
         }
+    }
+
+    @Says("Promise 18: DEPTH at most r. [chains of seven and eight ROWS, r from 0 to 5]")
+    void bestOfLongChains() {
+        // Alone 8, 10, 12, 12, 14, 14, 14, 14, copied 6: those alone stand at most r + 1 apart.
+        int[] seven = {84, 8 + 10 + 12 + 14 + 3 * 6, 8 + 10 + 14 + 4 * 6, 8 + 12 + 5 * 6, 8 + 12 + 5 * 6, 8 + 10 + 5 * 6};
+        int[] eight = {98, 8 + 12 + 14 + 14 + 4 * 6, 8 + 12 + 14 + 5 * 6, 8 + 14 + 6 * 6, 8 + 12 + 6 * 6, 8 + 12 + 6 * 6};
+        for (int r = 0; r <= 5; r++) {
+            due("seven, r " + r, bestOfAlike(7, r), seven[r]);
+            due("eight, r " + r, bestOfAlike(8, r), eight[r]);
+        }
+    }
+
+    private static int bestOfAlike(int n, int r) {
+        NeighbourBook x = new NeighbourBook(n);
+        for (int a = 0; a < n; a++) {
+            x.pair(a, 0);
+            x.pair(a, 2);
+        }
+        x.setting(0, 1);
+        x.setting(1, r);
+        return x.best();
     }
 
     @Says("Promise 18: from one ROW alone: that of y with the fewest bits of all with k 1 to w (of several the nearest)")

@@ -6,16 +6,24 @@ public final class EdgesOfTellingsTest extends Edges {
         run(new EdgesOfTellingsTest());
     }
 
-    /** The FIRST number of a book that begins with a row of one THING told PLAIN: behind 1 (KIND) and 010 (COUNT). */
-    private static String firstAsWritten(int n, int b, int form) {
-        NeighbourBook x = of(n, row(b));
+    /** The FIRST number of a row of one THING told PLAIN: behind 1 (KIND) and 010 (COUNT). */
+    private static String firstAsWritten(int a, int b, int form) {
+        NeighbourBook x = new NeighbourBook(48);
+        x.pair(a, b);
         x.form(FIRST, form);
         x.pack();
+        String row = rowAsWritten(x, a);
+        return row.startsWith("1" + "010") ? row.substring(4) : "not told PLAIN";
+    }
+
+    private static String rowAsWritten(NeighbourBook x, int a) {
         StringBuilder bits = new StringBuilder();
-        for (int i = 4; i < x.told(0, 4); i++) {
+        int from = x.told(a, 3);
+        int to = from + x.told(a, 4);
+        for (int i = from; i < to; i++) {
             bits.append(x.bit(i));
         }
-        return x.told(0, 0) == PLAIN ? bits.toString() : "not told PLAIN";
+        return bits.toString();
     }
 
     private void written(String what, String got, String want) {
@@ -30,8 +38,8 @@ public final class EdgesOfTellingsTest extends Edges {
         for (int v : new int[] {0, 1, 2, 63, 64, 99999, 100000}) {
             due("length(0, " + v + ")", x.length(0, v), v + 1);
         }
-        written("0", firstAsWritten(48, 0, 0), "1");
-        written("94", firstAsWritten(48, 47, 0), "0".repeat(94) + "1");
+        written("0", firstAsWritten(0, 0, 0), "1");
+        written("94", firstAsWritten(0, 47, 0), "0".repeat(94) + "1");
     }
 
     @Says("Terms 2: 1 DOUBLED: of the number and 1, with L bits (from its highest 1 on): L - 1 bits 0, then these, the highest first.")
@@ -43,8 +51,10 @@ public final class EdgesOfTellingsTest extends Edges {
             due("length(1, " + (last + 1) + "), one more", x.length(1, last + 1), 2 * digits + 1);
         }
         due("length(1, 100000)", x.length(1, 100000), 33);
-        written("0", firstAsWritten(48, 0, 1), "1");
-        written("94", firstAsWritten(48, 47, 1), "000000" + "1011111");
+        written("0", firstAsWritten(0, 0, 1), "1");
+        written("62, the last with 6", firstAsWritten(0, 31, 1), "00000" + "111111");
+        written("63, the first with 7", firstAsWritten(32, 0, 1), "000000" + "1000000");
+        written("94", firstAsWritten(0, 47, 1), "000000" + "1011111");
     }
 
     @Says("Terms 2: 2 TWICE: L - 1 by DOUBLED, then these but the highest one.")
@@ -60,8 +70,10 @@ public final class EdgesOfTellingsTest extends Edges {
         }
         due("length(2, 65535)", x.length(2, 65535), 9 + 16);
         due("length(2, 100000)", x.length(2, 100000), 9 + 16);
-        written("0", firstAsWritten(48, 0, 2), "1");
-        written("94", firstAsWritten(48, 47, 2), "00111" + "011111");
+        written("0", firstAsWritten(0, 0, 2), "1");
+        written("62, the last with 6", firstAsWritten(0, 31, 2), "00110" + "11111");
+        written("63, the first with 7", firstAsWritten(32, 0, 2), "00111" + "000000");
+        written("94", firstAsWritten(0, 47, 2), "00111" + "011111");
     }
 
     @Says("Terms 2: 3 + k, k 0 to 6, STEPPED: the number by 2 ^ k, cut, by UNARY, then its k lowest bits, the highest first.")
@@ -75,11 +87,13 @@ public final class EdgesOfTellingsTest extends Edges {
             due("length(3 + " + k + ", " + (2 * step - 1) + ")", x.length(3 + k, 2 * step - 1), 2 + k);
             due("length(3 + " + k + ", 100000)", x.length(3 + k, 100000), 100000 / step + 1 + k);
         }
-        written("0, k 0", firstAsWritten(48, 0, 3), "1");
-        written("0, k 6", firstAsWritten(48, 0, 9), "1" + "000000");
-        written("94, k 0", firstAsWritten(48, 47, 3), "0".repeat(94) + "1");
-        written("94, k 1", firstAsWritten(48, 47, 4), "0".repeat(47) + "1" + "0");
-        written("94, k 6", firstAsWritten(48, 47, 9), "01" + "011110");
+        written("0, k 0", firstAsWritten(0, 0, 3), "1");
+        written("0, k 6", firstAsWritten(0, 0, 9), "1" + "000000");
+        written("94, k 0", firstAsWritten(0, 47, 3), "0".repeat(94) + "1");
+        written("94, k 1", firstAsWritten(0, 47, 4), "0".repeat(47) + "1" + "0");
+        written("63, k 6", firstAsWritten(32, 0, 9), "1" + "111111");
+        written("64, k 6", firstAsWritten(0, 32, 9), "01" + "000000");
+        written("94, k 6", firstAsWritten(0, 47, 9), "01" + "011110");
     }
 
     @Says("Terms 2: USES of numbers: 0 KIND, 1 COUNT ... 7 LENGTH; each has a FORM, at first 1.")
@@ -270,8 +284,13 @@ public final class EdgesOfTellingsTest extends Edges {
 
     @Says("Terms 3: 4 DENSE ... COUNT the last one less the first; then for each THING between both, in order, a bit [none between]")
     void denseOfNeighbours() {
-        NeighbourBook x = of(48, row(47), row(1, 2), row(2, 4));
-        due("one", x.cost(0, DENSE, 0), 5 + 13 + 1);
+        NeighbourBook x = of(48, row(47), row(1, 2), row(2, 4), row(0));
+        x.form(COUNT, 4);
+        due("one", x.cost(0, DENSE, 0), 5 + 13 + 2);
+        due("one, 0", x.cost(3, DENSE, 0), 5 + 5 + 2);
+        x.form(COUNT, 0);
+        due("one, 0, by UNARY", x.cost(3, DENSE, 0), 5 + 5 + 1);
+        x.form(COUNT, 1);
         due("two neighbours", x.cost(1, DENSE, 0), 5 + 1 + 3);
         due("one between", x.cost(2, DENSE, 0), 5 + 1 + 3 + 1);
     }
@@ -281,6 +300,54 @@ public final class EdgesOfTellingsTest extends Edges {
         NeighbourBook x = of(48, span(0, 47), row(0, 47));
         due("all 48", x.cost(0, DENSE, 0), 5 + 1 + 11 + 46);
         due("the first and the last", x.cost(1, DENSE, 0), 5 + 3 + 11 + 46);
+    }
+
+    @Says("Terms 3: 4 DENSE ... then for each THING between both, in order, a bit: 1, if it is in the ROW. [the first and the last of them]")
+    void denseBits() {
+        NeighbourBook x = of(24, row(0, 2, 4, 6, 8, 10, 12, 14, 16, 18, 20, 22), row(1, 2, 4, 6, 8, 10, 12, 14, 16, 18, 19, 20));
+        x.setting(0, 0);
+        x.pack();
+        // KIND 4, FIRST 0, COUNT 22.
+        written("not, and then by turns", rowAsWritten(x, 0), "00101" + "1" + "000010111" + "010101010101010101010");
+        // KIND 4, FIRST 0, COUNT 19: the first and the last between both are in the ROW.
+        written("in it", rowAsWritten(x, 1), "00101" + "1" + "000010100" + "101010101010101011");
+    }
+
+    // ---- Terms 3: all that is written, in order
+
+    @Says("Terms 3: their KIND is written first (USE KIND). With numbers by USES, in order [each KIND, each USE in a FORM of its own]")
+    void writtenInOrder() {
+        NeighbourBook x = of(48, row(1, 4));
+        int[][] runs = {{1, 0, 19}, {1, 22, 24}, {1, 30, 30}, {2, 0, 9}, {2, 12, 19}, {2, 22, 22}, {2, 40, 40}};
+        for (int[] run : runs) {
+            for (int b = run[1]; b <= run[2]; b++) {
+                x.pair(run[0], b);
+            }
+        }
+        for (int b = 0; b <= 40; b++) {
+            if (x.has(2, b) == 1) {
+                x.pair(3, b);
+            }
+        }
+        for (int b = 4; b <= 24; b += 2) {
+            x.pair(4, b);
+        }
+        int[] forms = {1, 1, 2, 1, 4, 5, 6, 7};
+        for (int use = 0; use < 8; use++) {
+            x.form(use, forms[use]);
+        }
+        x.pack();
+        // KIND 0; COUNT 2, FIRST 2, GAP 2.
+        written("PLAIN", rowAsWritten(x, 0), "1" + "011" + "0101" + "011");
+        // KIND 1; COUNT 2, BEGIN 1, LENGTH 17, GAP 1, LENGTH 0; COUNT 1, FIRST 58.
+        written("SPANS", rowAsWritten(x, 1), "010" + "011" + "1001" + "010001" + "010" + "10000" + "010" + "0011011011");
+        // KIND 2, BACK 0; COUNT 3, BLOCK 10, 1, 8; COUNT 0; COUNT 1, FIRST 76.
+        String blocks = "00100" + "00110" + "101" + "00100";
+        written("COPIED", rowAsWritten(x, 2), "011" + "10" + blocks + "1" + "010" + "00111001101");
+        // KIND 3, BACK 0.
+        written("SAME", rowAsWritten(x, 3), "00100" + "10");
+        // KIND 4; FIRST 0, COUNT 20, and 19 bits.
+        written("DENSE", rowAsWritten(x, 4), "00101" + "1" + "000010101" + "0" + "10".repeat(9));
     }
 
     // ---- Terms 3: DEPTH, WINDOW, CHAIN

@@ -45,11 +45,12 @@ public final class ReadBackTest {
         x.setting(0, random.nextInt(8));
         x.setting(1, random.nextInt(6));
         List<TreeSet<Integer>> wanted = rowsFor(n, random);
-        int calls = 8 + 2 + join(x, wanted) + 1;
+        int calls = 8 + 2 + wanted.stream().mapToInt(TreeSet::size).sum() + 1;
         // Beyond these calls the document promises nothing, so such a book is not packed, nor a long one read.
         if (calls + 9 > MOST_CALLS) {
             return;
         }
+        join(x, wanted);
         int size = x.pack();
         if (bestForms) {
             int less = x.forms();
@@ -87,15 +88,12 @@ public final class ReadBackTest {
         return rows;
     }
 
-    private static int join(NeighbourBook x, List<TreeSet<Integer>> rows) {
-        int calls = 0;
+    private static void join(NeighbourBook x, List<TreeSet<Integer>> rows) {
         for (int a = 0; a < rows.size(); a++) {
             for (int b : rows.get(a)) {
                 x.pair(a, b);
-                calls++;
             }
         }
-        return calls;
     }
 
     private void check(Checks checks, int[] kinds, String where, List<TreeSet<Integer>> wanted, int size) {
