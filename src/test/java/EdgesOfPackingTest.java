@@ -628,7 +628,7 @@ public final class EdgesOfPackingTest extends Edges {
         }
     }
 
-    @Says("Promise 18: DEPTH at most r. [chains of seven and eight ROWS, r from 0 to 5]")
+    @Says("Promise 18: DEPTH at most r. [chains of seven, eight and twelve ROWS, r from 0 to 5]")
     void bestOfLongChains() {
         // Alone 8, 10, 12, 12, 14, 14, 14, 14, copied 6: those alone stand at most r + 1 apart.
         int[] seven = {84, 8 + 10 + 12 + 14 + 3 * 6, 8 + 10 + 14 + 4 * 6, 8 + 12 + 5 * 6, 8 + 12 + 5 * 6, 8 + 10 + 5 * 6};
@@ -637,6 +637,7 @@ public final class EdgesOfPackingTest extends Edges {
             due("seven, r " + r, bestOfAlike(7, r), seven[r]);
             due("eight, r " + r, bestOfAlike(8, r), eight[r]);
         }
+        due("twelve, r 5: just twice six", bestOfAlike(12, 5), 8 + 14 + 10 * 6);
     }
 
     private static int bestOfAlike(int n, int r) {
