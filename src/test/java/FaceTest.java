@@ -87,9 +87,18 @@ public final class FaceTest {
             yes("without " + word, !m.find());
         }
         yes("without functions whose name ends in Exact", !code.contains("Exact("));
+        for (String line : code.split("\n")) {
+            // A final field gets its value as the object is made, so no call makes what is kept there.
+            yes("made for a final field: " + line.strip(), !line.contains("new ") || isForFinalField(line, code));
+        }
         Matcher imports = Pattern.compile("import ([^;]*);").matcher(code);
         while (imports.find()) {
             yes("import of " + imports.group(1), imports.group(1).equals("java.util.Arrays"));
         }
+    }
+
+    private static boolean isForFinalField(String line, String code) {
+        Matcher m = Pattern.compile("(\\w+) = new [^;]*;$").matcher(line);
+        return m.find() && code.matches("(?s).*\n {4,8}private final [\\w\\[\\]]+ " + m.group(1) + "( =|;).*");
     }
 }
